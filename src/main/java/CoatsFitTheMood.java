@@ -11,6 +11,8 @@ public final class CoatsFitTheMood {
     private static final int MOST_TEXTS = 6, TAPE_SIZE = 160, SHEETS = 4, MOST_ITEMS = 40;
     private static final int MOST_SEEDS = 10, MOST_K = 9999;
     private static final int DAY_FIRST = 10;
+    /** More than any day COSTS. */
+    private static final int TOO_DEAR = 1000000;
 
     private static final int TIGHT = 1, LOOSE = 2, GRIEF = 3, IRONY = 4, FALSE = 5, KINDS = 6;
     private static final int[] KIND_ABOVE = {-1, 0, 0, 1, 2, 0};
@@ -1024,7 +1026,7 @@ public final class CoatsFitTheMood {
 
         int cheapest() {
             for (int hour = HOURS - 1; hour >= 0; hour--) {
-                int changing = Integer.MAX_VALUE;
+                int changing = TOO_DEAR;
                 for (int c = 0; c < many && c < CHOICES; c++) {
                     int at = hour * CHOICES + c;
                     keeping[at] = fines[at] + (hour == HOURS - 1 ? 0 : least[at + CHOICES]);

@@ -217,6 +217,16 @@ public final class DaysTest {
         for (int i = 5; i < 8; i++) x.coat(0, 0, 10);
         Due.moods(x, 2, 0);
         cover(x, 2, 32, 1);
+        CoatsFitTheMood y = new CoatsFitTheMood();
+        y.coat(0, 0, 99);
+        y.coat(0, 0, 0);
+        y.coat(0, 0, 50);
+        y.set(0, 0, 15);
+        cover(y, 0, 2 + 4, 2);
+        y.set(0, 23, 84);
+        cover(y, 0, 1 + 2 + 4, 3);
+        y.set(0, 0, 50);
+        cover(y, 0, 1 + 4, 2);
     }
 
     private static void bares() {
@@ -307,6 +317,12 @@ public final class DaysTest {
         due.is("12 HOUR 0 decides: CHEAP", z.day(0, 4), 99 + 3);
         due.is("12 HOUR 0 decides", z.day(0, 10), NONE);
         due.is("12 HOUR 1 then", z.day(0, 11), 0);
+        CoatsFitTheMood w = new CoatsFitTheMood();
+        w.coat(5, 5, 0);
+        w.set(0, 0, 5);
+        due.is("12 taking off is free: CHEAP", w.day(0, 4), 23 * 99);
+        due.is("12 a FALSE one at HOUR 0", w.day(0, 10), 0);
+        due.is("12 taken off", w.day(0, 11), NONE);
     }
 
     private static void dayRefuses() {

@@ -188,6 +188,7 @@ public final class MoodsTest {
         fits(x, 2, new int[] {40, 60}, new int[] {39, 61});
         Due.rule(x, "eases 14; fines 0; costs 0;");
         fits(x, 1, new int[] {43, 57}, new int[] {42, 58});
+        fits(x, 3, new int[] {42, 49}, new int[] {41, 50});
     }
 
     private static void fits(CoatsFitTheMood x, int coat, int[] fit, int[] not) {

@@ -110,6 +110,27 @@ public final class TextsTest {
         fault("eases1;fines2;costs3; ?", 22);
         fault("eases1;fines2;costs3;99999", 21);
         fault("eases1;fines2;costs3;;", 21);
+        fault("eases1;fines2;costs3;" + (char) 0, 21);
+        faultOfE("" + (char) 0, 0);
+        faultOfE("" + (char) 1, 0);
+        faultOfE("" + (char) 2, 0);
+        faultOfE("1+" + (char) 2, 2);
+        String[] words = {"cut", "mood", "number", "hour", "worn", "off"};
+        for (String word : words) {
+            faultOfE(word, NO_FAULT);
+            faultOfE("x" + word.substring(1), 0);
+            faultOfE(word.substring(0, word.length() - 1) + "x", 0);
+            faultOfE(word + "a", 0);
+            faultOfE(word + "z", 0);
+            faultOfE(word.substring(1), 0);
+        }
+        fault("xases 1;", 0);
+        fault("easez 1;", 0);
+        fault("eases 1;xines 2;", 8);
+        fault("eases 1;fines 2;xosts 3;", 16);
+        faultOfE("1 xr 2", 2);
+        faultOfE("1 xnd 2", 2);
+        faultOfE("xot 2", 0);
         fault("?", 0);
         fault(" ?", 1);
         fault("ease 1;", 0);
