@@ -77,8 +77,8 @@ public final class DaysTest {
     }
 
     private static void plansAreTold() {
-        CoatsFitTheMood x = four();
         for (int sort = 0; sort <= 2; sort++) {
+            CoatsFitTheMood x = four();
             Due.row(x, 0, sort);
             told(x, 0, 24 * 99, 0, 24);
             Due.row(x, 0, sort, allDay(0));
@@ -98,6 +98,7 @@ public final class DaysTest {
             Due.row(x, 0, sort, NONE, NONE, 0, 0);
             told(x, 0, 22 * 99, 3, 22);
         }
+        CoatsFitTheMood x = four();
         Due.row(x, 0, 0, 255, 256, 257);
         told(x, 0, 99 + 7 + 21 * 99, 3 + 6, 23);
         Due.row(x, 0, 1, 65535, 65536, 65537);

@@ -20,11 +20,11 @@ public final class WildTest {
             if (Modifier.isPublic(method.getModifiers())) calls.add(method);
         }
         calls.sort(Comparator.comparing(Method::getName));
-        for (int run = 0; run < 100; run++) {
+        for (int run = 0; run < 300; run++) {
             Random random = new Random(run);
             CoatsFitTheMood x = new CoatsFitTheMood();
             Model y = new Model();
-            for (int i = 0; i < 1500; i++) {
+            for (int i = 0; i < 512; i++) {
                 Method call = calls.get(random.nextInt(calls.size()));
                 Object[] numbers = new Object[call.getParameterCount()];
                 for (int j = 0; j < numbers.length; j++) numbers[j] = NUMBERS[random.nextInt(NUMBERS.length)];
