@@ -19,7 +19,13 @@ final class Edges {
     private String now = "";
     private int answers = 1;
 
+    /** Where no document lies beside the project, the edges are tested all the same. */
     Edges() throws IOException {
+        if (Files.exists(DOCUMENT)) read();
+        else System.out.println("EdgesTest: no " + DOCUMENT + ": its words are not looked for");
+    }
+
+    private void read() throws IOException {
         String under = "";
         for (String line : Files.readString(DOCUMENT).split("\n")) {
             if (line.startsWith("## ")) under = heading(line);
@@ -43,6 +49,7 @@ final class Edges {
         if (answers == 0) due.is("a test of: " + now, 0, 1);
         now = under + " '" + words + "'";
         answers = 0;
+        if (texts.isEmpty()) return;
         String text = texts.getOrDefault(under, "");
         int at = text.indexOf(words);
         due.is("the document says " + now, at >= 0 ? 1 : 0, 1);
@@ -57,7 +64,7 @@ final class Edges {
     /** Ends the test; all that the document says must have been named. */
     void end() {
         if (answers == 0) due.is("a test of: " + now, 0, 1);
-        due.is("headings", texts.size(), 1 + 3 + 29);
+        if (!texts.isEmpty()) due.is("headings", texts.size(), 1 + 3 + 29);
         for (String under : texts.keySet()) {
             String text = texts.get(under);
             StringBuilder open = new StringBuilder();
